@@ -1109,6 +1109,14 @@ public final class NoEcho {
             return bits;
         }
 
+        int allSizes() {
+            int bits = 0;
+            for (int t = 0; t < THINGS; t++) {
+                bits |= sizes[t];
+            }
+            return bits;
+        }
+
         int colourOf(int s) {
             return isSpeaker(s) ? colours[s] : 0;
         }
@@ -1133,6 +1141,22 @@ public final class NoEcho {
         int asks(int laws) {
             int letters = (laws & 1) != 0 ? first.banLetters : 0;
             return (laws & 2) != 0 ? letters | second.banLetters : letters;
+        }
+
+        /** Of some speakers (bits) the first of each kind that some letters (bits) tell apart. */
+        int differing(int speakers, int letters) {
+            boolean asksWho = (letters & (1 << S | 1 << R)) != 0;
+            boolean asksColour = (letters & (1 << C | 1 << D)) != 0;
+            int bits = 0;
+            int coloursSeen = 0;
+            for (int s = 0; s < SPEAKERS; s++) {
+                int kind = 1 << (asksColour ? colours[s] : 0);
+                if ((speakers >> s & 1) != 0 && (asksWho || (coloursSeen & kind) == 0)) {
+                    bits |= 1 << s;
+                    coloursSeen |= kind;
+                }
+            }
+            return bits;
         }
 
         /** What was said ahead; r is NONE if nothing was. */
@@ -1649,7 +1673,8 @@ public final class NoEcho {
         private final int[] now = new int[ROWS];
         private final int[] next = new int[ROWS];
         private final int[] seen = new int[ROWS];
-        private int speakers;
+        private int tried;
+        private int wanted;
         private boolean asksA;
         private boolean asksB;
         private boolean asksSpeaker;
@@ -1661,9 +1686,13 @@ public final class NoEcho {
         }
 
         int answer(Talk talk, int speakers, int l) {
+            wanted = 1 << l;
+            if ((tongue.allSizes() & wanted) == 0) {
+                return NOT_SO;
+            }
             begin(talk, speakers);
             for (int level = 0; level <= WAITED_LIMIT; level++) {
-                if (somebodyMay(1 << l, talk.size + level)) {
+                if (somebodyMay(talk.size + level)) {
                     return level;
                 }
                 if (level < WAITED_LIMIT && !spread(talk.size + level)) {
@@ -1675,12 +1704,12 @@ public final class NoEcho {
 
         private void begin(Talk talk, int speakers) {
             int letters = tongue.asks(1);
+            tried = tongue.differing(speakers, letters);
             asksB = (letters & 1 << B) != 0;
             asksA = asksB || (letters & 1 << A) != 0;
             asksSpeaker = (letters & (1 << S | 1 << C)) != 0;
             asksLast = (letters & (1 << R | 1 << D)) != 0;
             asksK = (letters & 1 << K) != 0;
-            this.speakers = speakers;
             for (int i = 0; i < ROWS; i++) {
                 now[i] = 0;
                 seen[i] = 0;
@@ -1700,12 +1729,12 @@ public final class NoEcho {
             tongue.stand(a, row % WIDTH, row / WIDTH - 1, k);
         }
 
-        private boolean somebodyMay(int length, int k) {
+        private boolean somebodyMay(int k) {
             for (int row = 0; row < ROWS; row++) {
                 for (int a = 0; a < WIDTH && now[row] != 0; a++) {
                     if ((now[row] >> a & 1) != 0) {
                         standAt(row, a, k);
-                        if (anyMay(length)) {
+                        if (anyMay()) {
                             return true;
                         }
                     }
@@ -1714,10 +1743,10 @@ public final class NoEcho {
             return false;
         }
 
-        private boolean anyMay(int length) {
+        private boolean anyMay() {
             for (int s = 0; s < SPEAKERS; s++) {
-                if ((speakers >> s & 1) != 0) {
-                    if (tongue.letsAny(s, ALL_THINGS, length) != 0) {
+                if ((tried >> s & 1) != 0) {
+                    if (tongue.letsAny(s, ALL_THINGS, wanted) != 0) {
                         return true;
                     }
                     if (!asksSpeaker) {
@@ -1728,7 +1757,7 @@ public final class NoEcho {
             return false;
         }
 
-        /** One sentence more: whether there is anything new. */
+        /** One sentence more, none of which can be of the wanted length: whether there is anything new. */
         private boolean spread(int k) {
             for (int i = 0; i < ROWS; i++) {
                 next[i] = 0;
@@ -1754,9 +1783,9 @@ public final class NoEcho {
             int lengths = 0;
             boolean known = false;
             for (int s = 0; s < SPEAKERS; s++) {
-                if ((speakers >> s & 1) != 0) {
+                if ((tried >> s & 1) != 0) {
                     if (asksSpeaker || !known) {
-                        lengths = tongue.letsAny(s, ALL_THINGS, ALL_LENGTHS);
+                        lengths = tongue.letsAny(s, ALL_THINGS, ALL_LENGTHS & ~wanted);
                         known = true;
                     }
                     int row = rowOf(s, a);
@@ -1768,16 +1797,23 @@ public final class NoEcho {
         }
     }
 
-    /** Rounds: rows of 2, 4, 6 lengths in their order, each of which may follow the two ahead round the row. */
+    /**
+     * Rounds: rows of 2, 4, 6 lengths in their order, each of which may follow the two ahead round the row.
+     * A length stands for speaker s behind a and b; alive holds for s and b the bits of a that can be ahead of it.
+     */
     private static final class Rounding {
         private static final int DEAD_FROM = 2 * PAIRS;
+        private static final int PASSES = 64;
 
         private final Tongue tongue;
         private final Memo memo;
         private final int[] row = new int[ROUND_LIMIT];
+        private final int[] alive = new int[2 * WIDTH];
         private int t;
         private int saidAhead;
         private int size;
+        private boolean asksA;
+        private boolean asksB;
 
         Rounding(Tongue tongue, Memo memo) {
             this.tongue = tongue;
@@ -1785,12 +1821,13 @@ public final class NoEcho {
         }
 
         int answer(int t, int saidAhead, int what) {
-            memo.begin();
-            this.t = t;
-            this.saidAhead = saidAhead;
+            begin(t, saidAhead);
             boolean found = false;
             for (int i = 2; i <= ROUND_LIMIT && !found; i += 2) {
                 size = i;
+                if (i == 4) {
+                    thinOutAll();
+                }
                 found = beginsRound();
             }
             if (!found) {
@@ -1802,13 +1839,61 @@ public final class NoEcho {
             return what >= 0 && what < size && what < ROUND_LIMIT ? row[what] : NO_SUCH;
         }
 
-        private boolean beginsRound() {
+        private void begin(int t, int saidAhead) {
+            memo.begin();
+            this.t = t;
+            this.saidAhead = saidAhead;
+            int letters = tongue.asks(1);
+            asksA = (letters & 1 << A) != 0;
+            asksB = (letters & 1 << B) != 0;
             int bits = tongue.sizesOf(t);
-            for (int first = 1; first <= LONGEST; first++) {
-                for (int second = 1; second <= LONGEST && (bits >> first & 1) != 0; second++) {
+            for (int b = 0; b < WIDTH; b++) {
+                alive[b] = (bits >> b & 1) != 0 ? bits : 0;
+                alive[WIDTH + b] = alive[b];
+            }
+        }
+
+        /** Takes away what nothing can follow and what can follow nothing: no round goes through it. */
+        private void thinOutAll() {
+            boolean changed = true;
+            for (int i = 0; i < PASSES && changed; i++) {
+                changed = false;
+                for (int a = 1; a < WIDTH; a++) {
+                    changed |= thinOutBehind(0, a);
+                    changed |= thinOutBehind(1, a);
+                }
+            }
+        }
+
+        private boolean thinOutBehind(int s, int a) {
+            int from = s == 0 ? 0 : WIDTH;
+            int to = (s == 0 ? WIDTH : 0) + a;
+            if (a < 0 || a >= WIDTH) {
+                return false;
+            }
+            boolean changed = false;
+            int all = 0;
+            for (int b = 1; b < WIDTH; b++) {
+                if ((alive[from + b] >> a & 1) != 0) {
+                    int bits = following(s, a, b) & alive[to];
+                    all |= bits;
+                    if (bits == 0) {
+                        alive[from + b] &= ~(1 << a);
+                        changed = true;
+                    }
+                }
+            }
+            changed |= (alive[to] & ~all) != 0;
+            alive[to] &= all;
+            return changed;
+        }
+
+        private boolean beginsRound() {
+            for (int first = 1; first < WIDTH; first++) {
+                for (int second = 1; second < WIDTH && alive[first] != 0; second++) {
                     row[0] = first;
                     row[1] = second;
-                    if ((bits >> second & 1) != 0 && goesOn(2)) {
+                    if ((alive[first] >> second & 1) != 0 && goesOn(2)) {
                         return true;
                     }
                 }
@@ -1831,8 +1916,9 @@ public final class NoEcho {
             if (memo.has(key) && memo.get(key) == start) {
                 return false;
             }
-            int bits = following(i % 2, a, b);
-            for (int l = 1; l <= LONGEST; l++) {
+            int next = (i % 2 == 0 ? WIDTH : 0) + a;
+            int bits = next >= 0 && next < alive.length ? following(i % 2, a, b) & alive[next] : 0;
+            for (int l = 1; l <= LONGEST && bits != 0; l++) {
                 row[i] = l;
                 if ((bits >> l & 1) != 0 && goesOn(i + 1)) {
                     return true;
@@ -1842,8 +1928,9 @@ public final class NoEcho {
             return false;
         }
 
+        /** Lengths (bits) that speaker s may say behind a and b; what the law does not ask is not told apart. */
         private int following(int s, int a, int b) {
-            int key = s * PAIRS + a * WIDTH + b;
+            int key = s * PAIRS + (asksA ? a * WIDTH : 0) + (asksB ? b : 0);
             if (memo.has(key)) {
                 return memo.get(key);
             }
