@@ -88,18 +88,20 @@ public final class NoEcho {
 
     /** Promise 1. */
     public NoEcho() {
+        Tape ownTape = new Tape();
+        Tongue ownTongue = new Tongue();
         Memo memo = new Memo();
-        tape = new Tape();
-        reader = new Reader(tape);
-        tongue = new Tongue();
+        tape = ownTape;
+        reader = new Reader(ownTape);
+        tongue = ownTongue;
         talk = new Talk();
         keptTalk = new Talk();
         keptColours = new int[SPEAKERS];
-        holding = new Holding(tongue, memo);
-        anyTalks = new AnyTalk(tongue, memo);
-        silencing = new Silencing(tongue, memo);
-        waiting = new Waiting(tongue);
-        rounding = new Rounding(tongue, memo);
+        holding = new Holding(ownTongue, memo);
+        anyTalks = new AnyTalk(ownTongue, memo);
+        silencing = new Silencing(ownTongue, memo);
+        waiting = new Waiting(ownTongue);
+        rounding = new Rounding(ownTongue, memo);
         seedNow = 1;
     }
 
@@ -523,15 +525,15 @@ public final class NoEcho {
     }
 
     private boolean drawOne() {
-        int s = seedNow % 6;
-        int t = seedNow / 6 % THINGS;
+        int s = seedNow % SPEAKERS;
+        int t = seedNow / SPEAKERS % THINGS;
         standNow();
         int bits = tongue.lets(1, s, t, tongue.sizesOf(t));
         int choices = Integer.bitCount(bits);
         if (choices == 0 || talk.size >= TALK_LIMIT) {
             return false;
         }
-        talk.add(s, t, placeOfBit(bits, seedNow / 72 % choices));
+        talk.add(s, t, placeOfBit(bits, seedNow / (SPEAKERS * THINGS) % choices));
         return true;
     }
 

@@ -2,8 +2,9 @@ import java.util.Random;
 
 /** Runs of calls by chance (the same ones each time), answered by the class and by the plain oracle. */
 public final class OracleTest {
-    private static final int RUNS = 400;
+    private static final int RUNS = 300;
     private static final int CALLS = 120;
+    private static final int SEARCHES = 40;
 
     private final Tester test;
     private final Random random;
@@ -26,6 +27,7 @@ public final class OracleTest {
         int to = args.length > 1 ? Integer.parseInt(args[1]) : RUNS;
         for (int run = from; run < to; run++) {
             new OracleTest(test, run).go();
+            new OracleTest(test, run + 1000000).search();
         }
         test.end();
     }
@@ -42,6 +44,56 @@ public final class OracleTest {
             oneCall();
         }
         everything();
+    }
+
+    /** Laws that mix some letters as if by chance: what a search leaves out of its keys comes to light. */
+    private void search() {
+        for (int i = 0; i < SEARCHES; i++) {
+            if (i % 4 == 0) {
+                for (int j = 0; j < kindLimit; j++) {
+                    newThing(j * 11 / Math.max(1, kindLimit - 1), lowPattern());
+                }
+                newLaw(0, mixedLaw());
+                newLaw(1, mixedLaw());
+                colourCall();
+                sayCall();
+            }
+            switch (i % 6) {
+                case 0: heldCall(); break;
+                case 1: codedCall(); break;
+                case 2: anyTalkCall(); break;
+                case 3: silencedCall(); break;
+                case 4: waitedCall(); break;
+                default: roundCall(); break;
+            }
+        }
+    }
+
+    private String lowPattern() {
+        StringBuilder text = new StringBuilder();
+        for (int l = 1; l <= 5; l++) {
+            if (chance(2)) {
+                text.append(text.length() == 0 ? "" : "|").append("aaaaa", 0, l);
+            }
+        }
+        return text.length() == 0 ? "a|bb|ccc" : text.toString();
+    }
+
+    private String mixedLaw() {
+        if (chance(4)) {
+            // goes round after so many steps only
+            int steps = 2 + below(5);
+            String ahead = chance(2) ? "a" : "b";
+            return "n(" + ahead + ">0&!l%" + steps + "=[" + ahead + "+" + (1 + below(2)) + "]%" + steps + ")";
+        }
+        StringBuilder text = new StringBuilder("n([l*").append(1 + below(9));
+        String letters = "aabbtscrdk";
+        for (int i = below(4); i >= 0; i--) {
+            text.append("+").append(letters.charAt(below(letters.length()))).append("*").append(1 + below(9));
+        }
+        int modulus = 2 + below(11);
+        text.append("]%").append(modulus).append(">").append(below(modulus)).append(")");
+        return text.append(chance(4) ? ";n(l=a)" : chance(6) ? ";n(l=b)" : "").toString();
     }
 
     private boolean chance(int of) {

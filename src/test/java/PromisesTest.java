@@ -903,6 +903,11 @@ public final class PromisesTest {
         silenced(x, 0, 1, 4, 1, 6, 1, 0, 1);
         silenced(x, 0, 1, 4, 1, 2, 1, 0, 2);
         silenced(x, 4, 1, 0, 1, 6, -1, 0, 1);
+        // the law asks b alone: who says what lets the other no length two sentences on
+        Tester.thing(x, 7, "a|bb");
+        Tester.law(x, 0, "n(l=b|k>4&l+b=3)");
+        silenced(x, 0, bits(7), 1, bits(7), 2, 0, 7, 1);
+        silenced(x, 0, bits(7), 1, bits(7), 4, 1, 7, 1);
         int[][] wrong = {{6, 1, 1, 1, 1, 0}, {-1, 1, 1, 1, 1, 0}, {0, 1, 6, 1, 1, 0}, {0, 1, -1, 1, 1, 0},
             {0, 1, 0, 1, 1, 0}, {0, 1 << 12, 1, 1, 1, 0}, {0, 1, 1, -1, 1, 0}, {0, LOW, 1, 1, 1, 0},
             {0, 1, 1, 1, 0, 0}, {0, 1, 1, 1, 7, 0}, {0, 1, 1, 1, LOW, 0}, {0, 1, 1, 1, 1, -1}, {0, 1, 1, 1, 1, 3}};
@@ -984,6 +989,19 @@ public final class PromisesTest {
         rounded(x, 3, 1, 1);
         Tester.law(x, 0, "n(k=1)");
         rounded(x, 3);
+        // all lengths, and rows that come round after five or ten only
+        Tester.thing(x, 3, "a+");
+        Tester.law(x, 0, "n(!l%5=[a+1]%5)");
+        rounded(x, 3);
+        Tester.law(x, 0, "n(!l%5=[b+1]%5)");
+        rounded(x, 3);
+        Tester.law(x, 0, "n(!l%3=[b+1]%3)");
+        rounded(x, 3, 1, 1, 2, 2, 3, 3);
+        Tester.law(x, 0, "n(l<b+1)");
+        rounded(x, 3);
+        Tester.thing(x, 3, "a|bb|ccc|a9a9a6");
+        Tester.law(x, 0, "n(l=a|l=b)");
+        rounded(x, 3, 1, 2, 3, 24);
         Tester.thing(x, 3, "a");
         Tester.law(x, 0, "n(l=a)");
         rounded(x, 3);
