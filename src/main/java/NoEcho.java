@@ -589,7 +589,7 @@ public final class NoEcho {
 
         /** The sign under the head; NONE at the end and behind a fault, so that nobody reads on there. */
         int sign() {
-            return fault == 0 && at < end ? byteAt(at) : NONE;
+            return fault == 0 && at >= 0 && at < end && at < bytes.length ? bytes[at] : NONE;
         }
 
         void step() {
@@ -607,7 +607,9 @@ public final class NoEcho {
         }
 
         void expect(int sign) {
-            if (!takes(sign)) {
+            if (sign() == sign) {
+                step();
+            } else {
                 fail(FAULT_SIGN);
             }
         }
@@ -1170,15 +1172,11 @@ public final class NoEcho {
             moment[K] = k;
         }
 
-        private void speak(int s, int t) {
+        /** Those of some lengths (bits) in which a speaker may say a thing at this moment. */
+        int lets(int laws, int s, int t, int lengths) {
             moment[S] = s;
             moment[C] = colourOf(s);
             moment[T] = t;
-        }
-
-        /** Those of some lengths (bits) in which a speaker may say a thing at this moment. */
-        int lets(int laws, int s, int t, int lengths) {
-            speak(s, t);
             int left = lengths;
             if ((laws & 1) != 0) {
                 left = first.allowed(moment, left);
@@ -1215,7 +1213,9 @@ public final class NoEcho {
         }
 
         int pays(int s, int t, int l) {
-            speak(s, t);
+            moment[S] = s;
+            moment[C] = colourOf(s);
+            moment[T] = t;
             moment[L] = l;
             return first.pay(moment);
         }
