@@ -5,16 +5,22 @@ final class Tester {
     private int wrong;
     private int asked;
     private final String name;
+    private String part = "";
 
     Tester(String name) {
         this.name = name;
+    }
+
+    /** What the next answers are asked for. */
+    void begin(String what) {
+        part = what + ": ";
     }
 
     void due(String what, long got, long want) {
         asked++;
         if (got != want) {
             wrong++;
-            System.out.println(name + ": " + what + " answered " + got + ", due is " + want);
+            System.out.println(name + ": " + part + what + " answered " + got + ", due is " + want);
         }
     }
 
