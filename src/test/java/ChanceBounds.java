@@ -346,7 +346,8 @@ final class ChanceBounds extends Bounds {
         x.feed(9, 9, 9, 9, 9);
         test.due("what is behind is not looked at", x.check(20), NONE);
         test.due("21", x.check(21), -2);
-        int[] wrong = {0x18000000, 0x00180000, 0x00001800, 0x01000018, 0x00010018, 0x00000118, -24, 0, HIGH, LOW};
+        int[] wrong = {0x18000000, 0x00180000, 0x00001800, 0x01000018, 0x00010018, 0x00000118, -24, 0, HIGH, LOW,
+            LOW + 24, 0x00800018, 0x00008018};
         for (int number : wrong) {
             x.feed(number, 0, 0, 0, 0);
             test.due("all four bytes of " + number, x.check(1), 0);

@@ -11,6 +11,13 @@ final class HoldBounds extends Bounds {
         held(test, x, 1, new int[24], 18, 1, 2, 1, 2, 1, 2, 1, 2, 1, 2, 1, 2);
         Tester.law(x, 0, "n(l<a+2)");
         held(test, x, 1, new int[24], 156, 2, 4, 6, 8, 10, 12, 14, 16, 18, 20, 22, 24);
+        // each at its own place speaks
+        int[] told = new int[24];
+        for (int i = 0; i < 12; i++) {
+            told[2 * i] = i % 6;
+        }
+        Tester.law(x, 0, "n(!s=k%6);n(k>0&!r=[k-1]%6);n(!l=2*k+2)");
+        held(test, x, 1, told, 156, 2, 4, 6, 8, 10, 12, 14, 16, 18, 20, 22, 24);
         Tester.feed(x, new int[40]);
         test.due("0", x.held(1, 0, NONE), NONE);
         test.due("13", x.held(1, 13, NONE), NONE);
@@ -34,6 +41,8 @@ final class HoldBounds extends Bounds {
         held(test, x, 1, new int[] {0, 3, 0, 2}, 3, 2, 1);
         Tester.law(x, 0, "n(a=1&l=1);n(a=2&l=1)");
         held(test, x, 1, new int[] {0, 3, 0, 2}, 25, 1, 24);
+        Tester.law(x, 0, "n(k=1&a=1&l<3)");
+        held(test, x, 1, new int[] {0, 0, 0, 0}, 3, 2, 1);
         // who speaks, after whom, of which colour, and how many there were
         x.colour(5, 3);
         Tester.law(x, 0, "n(s=5&l<2);n(d=3&l<3)");
@@ -92,6 +101,13 @@ final class HoldBounds extends Bounds {
         Tester.law(x, 0, "n(l=a)");
         coded(test, x, 5, new int[] {0, 0, 4, 0, 0, 4}, 13, 4, 9);
         coded(test, x, 2, new int[] {0, 0, 0, 1, 0, 0, 2, 0, 1}, 7, 2, 4, 1);
+        int[] told = new int[36];
+        for (int i = 0; i < 12; i++) {
+            told[3 * i] = i % 6;
+            told[3 * i + 2] = (2 * i + 2) % 5;
+        }
+        Tester.law(x, 0, "n(!s=k%6);n(k>0&!r=[k-1]%6);n(!l=2*k+2)");
+        coded(test, x, 5, told, 156, 2, 4, 6, 8, 10, 12, 14, 16, 18, 20, 22, 24);
         Tester.law(x, 0, "n(!l=24)");
         coded(test, x, 5, new int[] {0, 0, 4}, 24, 24);
         test.due("24 modulo 5 is not 3", Tester.coded(x, 5, 1, NONE, 0, 0, 3), -2);
@@ -211,6 +227,11 @@ final class HoldBounds extends Bounds {
         row(test, x, bits(1, 2), 1, 1, 1);
         Tester.law(x, 0, "n(t=2&k=0)");
         row(test, x, bits(0, 1, 2), 2, 0, 0);
+        // speaker 1 may say thing 1 as the second one only, speaker 0 always
+        Tester.law(x, 0, "n(s=1&b>0&t=1)");
+        row(test, x, bits(0, 1), 0, 0, 0, 1);
+        row(test, x, bits(0, 1), 0, 0, 0, 1, 0);
+        test.due("of three each", x.anyTalk(bits(0, 1), 3, NONE), 1);
     }
 
     private static void row(Tester test, NoEcho x, int things, int... due) {

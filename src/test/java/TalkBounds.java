@@ -20,7 +20,49 @@ final class TalkBounds extends Bounds {
         test.due("the first one stays", x.said(0, 2), 2);
     }
 
-    @Says(of = 0, words = "All below goes on from it as it is (nothing is said by asking).")
+    @Says(of = 0, words = "All below goes on from it as it is")
+    static void allGoesOnFromTheTalk(Tester test) {
+        NoEcho x = tongue("a|bb|ccc|dddd");
+        x.colour(0, 2);
+        x.colour(1, 3);
+        x.colour(3, 1);
+        x.say(1, 0, 4);
+        x.say(2, 0, 3);
+        x.say(3, 0, 2);
+        // one sentence may be said now, and none behind it
+        for (int w = 0; w < 2; w++) {
+            Tester.law(x, w, "n(!(a=2&b=3&r=3&d=1&k=3))");
+            test.due("may", x.may(w, 0, 0, 1), 1);
+            test.due("ways", x.ways(w, 0, 0), bits(1, 2, 3, 4));
+            test.due("judged", Tester.judged(x, w, 2, 0, 0, 1, 1, 0, 1), 1);
+        }
+        for (int laws = 1; laws <= 3; laws++) {
+            test.due("held", Tester.held(x, laws, 1, NONE, 0, 0), 1);
+            test.due("held at most", Tester.held(x, laws, 2, 20, 0, 0, 1, 0), 1);
+        }
+        test.due("coded", Tester.coded(x, 2, 1, NONE, 0, 0, 1), 1);
+        test.due("coded at most", Tester.coded(x, 2, 2, 20, 0, 0, 1, 1, 0, 1), 1);
+        test.due("heard", Tester.heard(x, 1, NONE, 0, 1), 1);
+        test.due("heard two", Tester.heard(x, 2, NONE, 0, 1, 1, 1), 0);
+        test.due("any talk of one", x.anyTalk(1, 1, NONE), 1);
+        test.due("any talk of two", x.anyTalk(1, 2, NONE), 0);
+        test.due("silenced", x.silenced(0, 1, 1, 1, 1, 0), 0);
+        test.due("the other one is", x.silenced(0, 1, 1, 1, 2, 0), 1);
+        test.due("waited", x.waited(63, 4), 0);
+        // a second one may be said behind one word by speaker 0
+        Tester.law(x, 0, "n(k=3&!l=1);n(k=4&!(a=1&b=2&r=0&d=2));n(k=5)");
+        test.due("judged two", Tester.judged(x, 0, 3, 0, 0, 1, 1, 0, 3, 0, 0, 1), 2);
+        held(test, x, 1, new int[] {0, 0, 1, 0}, 2, 1, 1);
+        coded(test, x, 3, new int[] {0, 0, 1, 1, 0, 2}, 3, 1, 2);
+        test.due("heard two of them", Tester.heard(x, 2, NONE, 0, 1, 1, 4), 1);
+        test.due("any talk of these two", x.anyTalk(1, 2, NONE), 1);
+        test.due("silenced behind two", x.silenced(0, 1, 1, 1, 3, 0), -1);
+        test.due("nobody behind two", x.silenced(0, 1, 1, 1, 2, 0), 0);
+        test.due("waited for one", x.waited(bits(0), 4), 1);
+        test.due("not behind speaker 1", x.waited(bits(1), 4), -2);
+    }
+
+    @Says(of = 0, words = "(nothing is said by asking).")
     static void askingSaysNothing(Tester test) {
         NoEcho x = tongue("a|bb|ccc");
         Tester.law(x, 0, "n(l=a)");
@@ -48,7 +90,8 @@ final class TalkBounds extends Bounds {
     @Says(of = 0, words = "JUDGED is a row of SENTENCES as if they were said now, by a LAW:")
     static void judgedAsIfSaidNow(Tester test) {
         NoEcho x = tongue("a|bb|ccc");
-        say(x, 4, 0, 3, 2);
+        say(x, 1, 0, 3);
+        say(x, 4, 0, 2);
         Tester.law(x, 1, "n(!(k=2&a=2&b=3&r=4|k=3&a=1&b=2&r=0|k=4&a=3&b=1&r=5))");
         test.due("a, b, r and k go on", Tester.judged(x, 1, 4, 0, 0, 1, 5, 0, 3, 2, 0, 2, 1, 0, 1), 3);
         x.colour(4, 1);

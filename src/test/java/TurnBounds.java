@@ -21,6 +21,9 @@ final class TurnBounds extends Bounds {
         x.colour(2, 2);
         Tester.law(x, 0, "n(k>0&!d=3-c)");
         silenced(test, x, new int[] {4, 1, 2, 1}, 6, 0, 0, 1);
+        Tester.law(x, 0, "n(t=0|t=11)");
+        silenced(test, x, new int[] {4, 4095, 2, 4095}, 6, 0, 1, 1);
+        silenced(test, x, new int[] {4, 4095, 2, bits(0, 11)}, 6, 1, 1, 1);
     }
 
     @Says(of = 0, words = "n SENTENCES at most (1 to 6): who can't say anything has lost; behind n nobody has.")
@@ -99,6 +102,12 @@ final class TurnBounds extends Bounds {
         test.due("both and any thing", x.waited(bits(0, 5), 9), 1);
         test.due("one of them", x.waited(bits(0), 9), -2);
         test.due("the other", x.waited(bits(5), 9), -2);
+        Tester.law(x, 0, "n(l=9&!r=5)");
+        test.due("behind speaker 5", x.waited(bits(0, 5), 9), 1);
+        test.due("who is not there", x.waited(bits(0, 4), 9), -2);
+        Tester.law(x, 0, "n(t=0&!a=2)");
+        test.due("thing 3 comes first", x.waited(1, 9), 1);
+        test.due("and can be said at once", x.waited(1, 2), 0);
         Tester.law(x, 0, "n(0=0)");
         test.due("nothing may be said", x.waited(63, 1), -2);
     }
@@ -147,8 +156,14 @@ final class TurnBounds extends Bounds {
         rounded(test, x, 1, 2, 1);
         Tester.law(x, 0, "n(s=1)");
         rounded(test, x, 1);
+        Tester.thing(x, 1, "a|bb|ccc|a9a9a6");
+        Tester.law(x, 0, "n(l=a|l=b)");
+        rounded(test, x, 1, 1, 2, 3, 24);
+        Tester.thing(x, 1, "a|bb|a9a9a6");
+        rounded(test, x, 1, 1, 2, 24, 1, 2, 24);
         Tester.law(x, 0, "n(!l=24)");
         rounded(test, x, 0, 24, 24);
+        Tester.thing(x, 1, "a|bb");
         rounded(test, x, 1);
         rounded(test, x, 2);
     }
@@ -378,6 +393,10 @@ final class TurnBounds extends Bounds {
         test.due("place 5 of six", x.round(0, 5), 3);
         for (int what : new int[] {-2, 6, 7, LOW, HIGH}) {
             test.due("place " + what + " of six", x.round(0, what), -3);
+        }
+        Tester.law(x, 0, "n(0=0)");
+        for (int what : new int[] {-2, 6, 7, LOW, HIGH}) {
+            test.due("place " + what + " is in no round", x.round(0, what), -3);
         }
     }
 }
