@@ -1781,17 +1781,18 @@ public final class NoEcho {
             return any;
         }
 
+        /** What this level has reached already is not asked again; speakers whom no clause tells apart reach the same. */
         private void speakOn(int a) {
             int lengths = 0;
             boolean known = false;
             for (int s = 0; s < SPEAKERS; s++) {
-                if ((tried >> s & 1) != 0) {
+                int row = rowOf(s, a);
+                if ((tried >> s & 1) != 0 && row >= 0 && row < ROWS) {
                     if (asksSpeaker || !known) {
-                        lengths = tongue.letsAny(s, ALL_THINGS, ALL_LENGTHS & ~wanted);
+                        lengths = tongue.letsAny(s, ALL_THINGS, ALL_LENGTHS & ~wanted & ~next[row]);
                         known = true;
                     }
-                    int row = rowOf(s, a);
-                    if (row >= 0 && row < ROWS && lengths != 0) {
+                    if (lengths != 0) {
                         next[row] |= asksA ? lengths : 1;
                     }
                 }

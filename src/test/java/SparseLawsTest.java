@@ -26,6 +26,19 @@ public final class SparseLawsTest {
         {"a+", "a|[b]6", "[l*3+a*14+b*10+s*3]%29>3"},
         {"a|[b]6", "a|[b]6", "[l*11+a*5+b*23]%17>0"}};
 
+    /** Patterns of things 0 and 1, and law 0. */
+    private static final String[][] WAITS = {
+        {"[a]5b", "a2|b7", "n(l>a+1)"},
+        {"a|bb|ccc|dddd", "a5|b6", "n(l>a+1);n(!s=[r+1]%6&k>0)"},
+        {"a|bb|ccc|dddd", "a5|b6", "n(l>a+1);n(c=d&k>0)"},
+        {"[a]7b", "a", "n(l>1&!l=a+b)"},
+        {"[a]7b", "a", "n(l>2&!(l=a+s|l=b+r))"},
+        {"[a]7b", "a3", "n([l*3+a*5+b*7+t*2+s*4+r*3+k]%11>2)"},
+        {"[a]7b", "a3", "n([l*5+a*2+s*3+d]%13>2)"},
+        {"[a]7b", "a3", "n([l*7+b*3+c*3+r*2+t]%13>2)"},
+        {"[a]7b", "a3", "n([l*2+a*7+b*3]%17>2)"},
+        {"[a]7b", "a3", "n([l*2+a*7+r*3+k*5]%17>3)"}};
+
     public static void main(String[] args) {
         Tester test = new Tester("SparseLawsTest");
         for (String[] one : CASES) {
@@ -46,8 +59,50 @@ public final class SparseLawsTest {
             for (int n = 1; n <= 6; n++) {
                 test.due("silenced", x.silenced(0, 1, 1, 2, n, 0), y.silenced(0, 1, 1, 2, n, 0));
             }
+            for (int l = 1; l <= 10; l += 3) {
+                test.due("waited for " + l, x.waited(3, l), y.waited(3, l));
+            }
         }
+        goodAheadIsNotGoodHere(test);
+        longWaits(test);
         test.end();
+    }
+
+    /** Behind a three, rows that begin 0, 0 all go on; that must not be taken for an answer on 0, 1. */
+    private static void goodAheadIsNotGoodHere(Tester test) {
+        test.begin("any talk behind a three");
+        NoEcho x = new NoEcho();
+        Tester.thing(x, 0, "a");
+        Tester.thing(x, 1, "bb");
+        Tester.thing(x, 2, "ccc");
+        Tester.law(x, 0, "n(b=1&a=2)");
+        test.due("say", x.say(0, 2, 3), 1);
+        test.due("not each", x.anyTalk(3, 3, -1), 0);
+        int[] row = {0, 1, 0};
+        for (int i = 0; i < row.length; i++) {
+            test.due("place " + i, x.anyTalk(3, 3, i), row[i]);
+        }
+    }
+
+    /** Waits in which what each speaker has reached must be told apart by who speaks, who spoke and both lengths. */
+    private static void longWaits(Tester test) {
+        for (String[] one : WAITS) {
+            NoEcho x = new NoEcho();
+            Oracle y = new Oracle();
+            test.begin("waited by " + one[2]);
+            for (int t = 0; t < 2; t++) {
+                test.due("thing", Tester.thing(x, t, one[t]), told(y, one[t]).thing(t, one[t].length()));
+            }
+            for (int s = 0; s < 6; s++) {
+                test.due("colour", x.colour(s, s % 4), y.colour(s, s % 4));
+            }
+            test.due("law", Tester.law(x, 0, one[2]), told(y, one[2]).law(0, one[2].length()));
+            for (int speakers = 1; speakers < 64; speakers += 4) {
+                for (int l = 1; l <= 8; l++) {
+                    test.due(speakers + " for " + l, x.waited(speakers, l), y.waited(speakers, l));
+                }
+            }
+        }
     }
 
     private static Oracle told(Oracle y, String text) {
